@@ -452,7 +452,8 @@ public final class ShoulderHeirs {
         } else if (kind == TWIN && twinsToBear > 1) {
             whole = base - 1;
         }
-        return toBear > 1 ? Math.max(1, whole / toBear) : Math.max(1, whole);
+        int each = toBear > 1 ? whole / toBear : whole;
+        return each < 1 ? 1 : each;
     }
 
     /** All that is told of a funeral but its turns. */

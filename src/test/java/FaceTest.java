@@ -94,7 +94,9 @@ public final class FaceTest {
         Method[] all = Arrays.stream(ShoulderHeirs.class.getDeclaredMethods())
             .filter(m -> Modifier.isPublic(m.getModifiers())).toArray(Method[]::new);
         Arrays.sort(all, (a, b) -> a.getName().compareTo(b.getName()));
-        for (String text : List.of("", "s1,0;b1,2;", "s30,5;s30,5;s30,5;s30,5;r3;m3;b60,3;b60,3;b60,3;b1,1;b1,2;b9,0;")) {
+        for (String text : List.of("", "s1,0;b1,2;",
+            "s30,5;s30,5;s30,5;s30,5;r3;m3;b60,3;b60,3;b60,3;b1,1;b1,2;b9,0;",
+            "s20,0;s20,1;s20,2;s20,3;s20,4;s20,5;b60,0;b60,0;b60,0;b60,0;b60,0;b60,0;t5,0,99;t5,60,99;t0,0,99;")) {
             for (Method m : all) {
                 ShoulderHeirs x = new ShoulderHeirs();
                 for (char c : text.toCharArray()) x.write(c);

@@ -224,6 +224,12 @@ public final class PromisesTest {
         x = laid(STAND);
         bearerIs(x, STAND, 0, 1, 0, 3, 3);
         bearerIs(x, STAND, 1, 51, 90, NONE, 3);
+        // Two stumble at one yard, the third pays by three there.
+        String two = "s5,5;r3;b1,0;b1,0;b60,0;t0,0,4;t1,0,4;t2,0,4;";
+        x = laid(two);
+        bearerIs(x, two, 0, 1, 0, 3, 3);
+        bearerIs(x, two, 1, 1, 0, 3, 3);
+        bearerIs(x, two, 2, 600 - 12 - 9, 180, NONE, 5);
         // Price 3 for yards 2, 3; a hired one takes his part, and has none.
         String hired = "s2,0;s2,0;x1,3;b6,0;b6,2;t0,0,3;t1,1,2;";
         x = laid(hired);
@@ -250,6 +256,7 @@ public final class PromisesTest {
         // Two twins: 4 less 1, by two, cut; a twin beside another kind has no gain of it.
         spent("s1,3;b1,3;b1,3;t0,0,0;t1,0,0;", 1, 1);
         spent("s1,3;b1,3;b1,0;t0,0,0;t1,0,0;", 2, 2);
+        spent("s1,3;b1,0;b1,3;t0,0,0;t1,0,0;", 2, 2);
         spent("s1,5;r1;b1,3;b1,1;b1,3;t0,0,0;t1,0,0;t2,0,0;", 2, 4, 2);
         spent("s1,0;b1,3;b1,3;t0,0,0;t1,0,0;", 1, 1);
         spent("s1,0;b1,0;b1,0;b1,1;t0,0,0;t1,0,0;t2,0,0;", 1, 1, 1);
@@ -366,7 +373,11 @@ public final class PromisesTest {
         due(13, "undo()", x.undo(), 7);
         turnIs(13, x, 0, 0, 1, 1);
         due(13, "count(5)", x.count(5), 9);
-        for (int n = 6; n >= 0; n--) due(13, "undo()", x.undo(), n);
+        for (int n = 6; n >= 0; n--) {
+            due(13, "undo()", x.undo(), n);
+            due(13, "count(5) after " + n, x.count(5), n + 2);
+            turnIs(13, x, n + 1, 0, n + 2, n + 2);
+        }
         due(13, "undo()", x.undo(), NO);
         due(13, "what is too old stays", x.count(5), 2);
         turnIs(13, x, 1, 0, 2, 2);
@@ -400,6 +411,8 @@ public final class PromisesTest {
         bestIs("s2,4;b1,0;b6,0;t0,1,1;t1,0,0;", 0, 0, 90);
         bestIs("s1,5;s1,5;x1,2;r1;b1,0;b6,0;t0,1,1;t1,0,0;", 0, 0, 150);
         bestIs("s1,5;s1,5;x1,2;r3;b1,0;b6,0;t0,1,1;t1,0,0;", 0, NONE, NONE);
+        // Yard 0 is too dear for him with the others (4 of 10, then 4, 2, 2): from his own yard 1 on.
+        bestIs("s1,5;s3,0;x1,2;r3;b1,0;b6,0;t0,1,1;t1,0,0;t1,2,3;", 0, 203, 240);
         bestIs("s4,0;b6,0;b6,0;" + "t0,0,3;".repeat(9), 1, 3, 120);
         // Where it stands at once, he can bear it from the first yard on.
         bestIs("s4,0;b6,0;b6,0;", 1, 3, 240);
@@ -491,6 +504,12 @@ public final class PromisesTest {
         due(19, "he would stumble", x.cairn(0, 0, -1), 9999 - 240);
         due(19, "it would stand", x.cairn(1, 0, -1), 9999 - 240);
         due(19, "one stretch", laid("s9,0;b1,0;").cairn(0, 0, 1), NO);
+        x = laid("s3,0;s3,0;s3,0;b6,0;t0,6,8;t0,0,5;x1,5;x2,2;");
+        due(19, "the stretches behind stay where they are", x.cairn(0, 0, 1), 9999 - 240);
+        due(19, "cairn(0, 1, 2)", x.cairn(0, 1, 2), 9999 + 360);
+        put(x, "s3,0;s3,0;b6,0;");
+        x.lay();
+        due(19, "the last one now", x.cairn(0, 1, 1), NO);
         // Less by 10000 and more is told as it is.
         x = laid("s1,0;s30,0;s30,0;b60,0;t0,0,60;x1,9;");
         due(19, "far below", x.cairn(0, 1, -9), 9999 - 9 * 8 * 60);
@@ -537,6 +556,8 @@ public final class PromisesTest {
         restsAre("s6,5;s6,5;b1,0;b60,0;", 1, 0, 0, NONE);
         // In the rain of 3 more the weak one has 60 both ways; all four choices but those of both alike rest.
         restsAre("s6,5;s6,5;r3;b1,0;b60,0;", 0, 1, 2, 1);
+        // Nobody bears the steep yard alone.
+        restsAre("s1,5;s2,0;b1,1;b1,1;", 0, 1, 1, 9);
         // Two limping ones (12 a yard alone, 6 together), of 10: nothing alone, one yard together.
         restsAre("s6,5;s6,5;b1,1;b1,1;", 0, 1, 2, 0);
         ShoulderHeirs x = laid("s2,0;s4,0;b6,0;b6,0;");
