@@ -503,6 +503,10 @@ public final class PromisesTest {
         x = laid("s4,1;s4,5;b1,0;b60,0;t0,0,3;t1,4,7;");
         due(19, "he would stumble", x.cairn(0, 0, -1), 9999 - 240);
         due(19, "it would stand", x.cairn(1, 0, -1), 9999 - 240);
+        due(19, "the short one behind", laid("s9,0;s2,0;b1,0;").cairn(0, 0, 2), NO);
+        due(19, "one yard of it left", laid("s9,0;s2,0;b1,0;").cairn(0, 0, 1), 9999);
+        due(19, "the short one before", laid("s2,0;s9,0;b1,0;").cairn(0, 0, -2), NO);
+        due(19, "the long one behind", laid("s2,0;s9,0;b1,0;").cairn(0, 0, 5), 9999);
         due(19, "one stretch", laid("s9,0;b1,0;").cairn(0, 0, 1), NO);
         x = laid("s3,0;s3,0;s3,0;b6,0;t0,6,8;t0,0,5;x1,5;x2,2;");
         due(19, "the stretches behind stay where they are", x.cairn(0, 0, 1), 9999 - 240);
