@@ -141,6 +141,10 @@ public final class PromisesTest {
         for (String text : atFive) faultOf(text, 5);
         faultOf("s30,0;s30,0;s30,0;s29,0;s2,0;", 24);
         faultOf("s1,0;".repeat(7), 30);
+        faultOf("m1;".repeat(66) + "m1", 198);
+        faultOf("m1;".repeat(66) + "m,", 198);
+        faultOf("m1;".repeat(65) + "m01m1", 195);
+        faultOf("m1;".repeat(64) + "m01;m01;", NONE);
         faultOf("b1,0;".repeat(7), 30);
         faultOf("b1,0;" + "t0,0,0;".repeat(10), 5 + 63);
     }
@@ -417,7 +421,12 @@ public final class PromisesTest {
         // Where it stands at once, he can bear it from the first yard on.
         bestIs("s4,0;b6,0;b6,0;", 1, 3, 240);
         bestIs("s4,0;m2;b6,0;b6,0;", 1, NONE, NONE);
-        ShoulderHeirs x = laid("s4,0;b6,0;b6,0;t0,0,3;");
+        ShoulderHeirs x = laid("s30,0;s30,0;s30,0;s30,0;b60,0;b60,0;");
+        x.bear(0, 0, 119);
+        due(14, "120 yards that never stand", x.best(1, 0), 119);
+        due(14, "their acres", x.best(1, 1), 3600);
+        due(14, "he has them all", x.best(0, 0), NONE);
+        x = laid("s4,0;b6,0;b6,0;t0,0,3;");
         due(14, "best(0, 1), then count(5)", x.best(1, 1) - 120 + x.count(5), 1);
         for (int i : new int[] {-1, 2, LOW, HIGH}) due(14, "best(" + i + ", 0)", x.best(i, 0), BAD);
         for (int w : new int[] {-1, 2, LOW, HIGH}) due(14, "best(1, " + w + ")", x.best(1, w), BAD);
@@ -445,6 +454,8 @@ public final class PromisesTest {
         due(16, "m2 of one", laid("s3,0;m2;b1,0;").needed(), NONE);
         due(16, "twins", laid("s10,3;b1,0;b1,3;b1,0;b1,3;").needed(), 10);
         due(16, "the fewest ahead of the lowest", laid("s10,1;b1,0;b1,0;b1,0;b1,0;b1,0;b2,0;").needed(), 32);
+        // Six limping ones pay 10 by six, cut: 1 a yard; five would pay 2.
+        due(16, "all six", laid("s10,4;" + "b1,1;".repeat(6)).needed(), 63);
         due(16, "turns do not matter", laid("s10,0;b1,0;b1,0;t1,0,9;").needed(), 1);
     }
 
